@@ -14,6 +14,7 @@ public final class BestTest {
     "mast 2 250; hitch 2 open 90; hitch 2 open 80; vow 2 open 70; hawser 2 open 58; splice 2",
     "mast 0 100 down; knot 0; knot 1 open 99; fool 2 open 0; wind 0 99; wind 5 99",
     "wind 3 90; wind 7 80; mast 3 20; knot 3 open 99; hitch 3 open 99; vow 3 open 60; vow 2 loose",
+    "mast 0 350; knot 0; splice 0; hitch 0; fool 0; hawser 0; vow 1; knot 1; splice 2; fool 2; vow 3",
   };
 
   public static void main(String[] args) {
@@ -33,7 +34,8 @@ public final class BestTest {
   }
 
   private static void best() {
-    TalkKnots x = Due.told("knot 1; knot 0 open 60; splice 2 open 95; fool 0 open 80; knot 0 loose");
+    TalkKnots x = Due.told("knot 1; knot 0 open 60; splice 2 open 95; fool 0 open 80;"
+        + " knot 0 loose");
     due.is("best(0): the knot that holds it", x.best(0), 1);
     due.is("best(1)", x.best(1), 0);
     due.is("best(2), which doesn't fall", x.best(2), Due.NONE);
@@ -59,7 +61,8 @@ public final class BestTest {
   }
 
   private static void open() {
-    TalkKnots x = Due.told("knot 0 loose; knot 1; mast 1 101; fool 2; mast 2 70; mast 3 999; knot 3");
+    TalkKnots x = Due.told("knot 0 loose; knot 1; mast 1 101; fool 2; mast 2 70; mast 3 999;"
+        + " knot 3");
     due.is("open of a loose one", x.open(0, 0), Due.NONE);
     due.is("open(1, 0)", x.open(1, 0), 0);
     due.is("open(1, 1)", x.open(1, 1), 51);
@@ -72,6 +75,8 @@ public final class BestTest {
     due.is("open(4, 1)", x.open(4, 1), Due.BEYOND);
     due.is("open(-1, 1)", x.open(-1, 1), Due.BEYOND);
     due.is("nothing changed", x.of(1, 2), 50);
+    due.is("only 99 will do", Due.told("mast 0 198; knot 0").open(0, 1), 99);
+    due.is("nor will that", Due.told("mast 0 199; knot 0").open(0, 1), Due.NONE);
     due.is("a splice of 90", Due.told("mast 0 999; splice 0").open(0, 100), 90);
   }
 
@@ -113,6 +118,10 @@ public final class BestTest {
     due.is("all the same within two hours", x.calm(2), 0);
     // In hour 2 the KNOT HOLDS 112, under 50 and 120.
     due.is("the windy place", x.calm(3), 2);
+    x.weight(0, 112);
+    due.is("the windy place, just held when calm", x.calm(3), 2);
+    x.weight(0, 113);
+    due.is("the windy place, not held when calm", x.calm(3), 0);
     due.is("calm(0)", x.calm(0), Due.BEYOND);
     due.is("calm(101)", x.calm(101), Due.BEYOND);
     due.is("calm(-1)", x.calm(-1), Due.BEYOND);
@@ -123,7 +132,8 @@ public final class BestTest {
     TalkKnots x = new TalkKnots();
     due.is("no knots", x.firmest(0), Due.NONE);
     due.is("no knots, too far", x.firmest(201), Due.BEYOND);
-    x = Due.told("knot 0 loose; knot 1 open 80; hitch 0 open 80; splice 2 open 62; hawser 0 open 62");
+    x = Due.told("knot 0 loose; knot 1 open 80; hitch 0 open 80; splice 2 open 62;"
+        + " hawser 0 open 62");
     due.is("firmest(0): the hawser with another", x.firmest(0), 4);
     x.cast(2);
     due.is("of two alike the least", x.firmest(0), 3);

@@ -4,6 +4,7 @@ public final class HourTest {
 
   public static void main(String[] args) {
     hours();
+    lastHour();
     allGiveAtOnce();
     settlingAndAge();
     fallenMasts();
@@ -26,6 +27,21 @@ public final class HourTest {
     due.is("hours(100)", x.hours(100), 4);
     due.is("now(0) then", x.now(0), 102);
     due.is("now(1) then", x.now(1), 6);
+  }
+
+  /** So late that the object's 512 calls are over: no run can ask for it, but STATE is there. */
+  private static void lastHour() {
+    TalkKnots x = Due.told("splice 0 open 95");
+    for (int i = 0; i < 999; i++) {
+      x.hours(100);
+    }
+    due.is("now(0)", x.now(0), 99900);
+    due.is("hours(100) to 100000", x.hours(100), Due.STATE);
+    due.is("hours(101)", x.hours(101), Due.BEYOND);
+    due.is("hours(99) to 99999", x.hours(99), 1);
+    due.is("hours(1) to 100000", x.hours(1), Due.STATE);
+    due.is("now(0) then", x.now(0), 99999);
+    due.is("on goes on", x.on(0, 200, 1), 1);
   }
 
   private static void allGiveAtOnce() {

@@ -67,9 +67,15 @@ public final class ImageTest {
     TalkKnots empty = new TalkKnots();
     empty.image();
     empty.knot(0, 0);
+    empty.set(0, 2, 77);
+    empty.set(0, 4, 12);
+    empty.cast(0);
     due.is("undo() to no knots", empty.undo(), 0);
-    due.is("a new one is as at first", empty.knot(1, 1), 0);
-    due.is("its open", empty.of(0, 2), 50);
+    due.is("a new one is as at first", empty.knot(1, 2), 0);
+    int[] want = {1, 2, 50, 1, 0};
+    for (int what = 0; what < 5; what++) {
+      due.is("as at first: of(0, " + what + ")", empty.of(0, what), want[what]);
+    }
   }
 
   private static void tear() {

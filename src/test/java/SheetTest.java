@@ -151,6 +151,8 @@ public final class SheetTest {
     due.is("book(0, 1)", x.book(0, 1), 5);
     // 79 under 100: it gives way at once.
     row("book of the second", x, 0, 20, 20, 20, 20, 20);
+    due.is("book(0, 0) again", x.book(0, 0), 5);
+    row("book of the first again", x, 0, 90, 88, 86, 84, 82);
     due.is("nothing changed: hour", x.now(0), 0);
     due.is("nothing changed: open", x.of(0, 2), 90);
     due.is("book(1, 0)", x.book(1, 0), Due.MISSING);

@@ -101,10 +101,14 @@ public final class TextTest {
   private static void faults() {
     Object[][] rows = {
       // A byte that begins no TOKEN.
-      {"$", 0}, {"Knot 0", 0}, {"knot\t0", 4}, {"knot 0,", 6}, {"knot 0 \u00e9", 7}, {"knot 0\n", 6},
-      {"knot 0;\u0000", 7}, {"knot -1", 5}, {"knot `", 5}, {"knot {", 5}, {"knot /", 5}, {"knot :", 5},
+      {"$", 0}, {"Knot 0", 0}, {"knot\t0", 4}, {"knot 0,", 6}, {"knot 0 \u00e9", 7},
+      {"knot 0\n", 6},
+      {"knot 0\u0000", 6}, {"knot 0;\u0000", 7}, {"knot -1", 5}, {"knot `", 5}, {"knot {", 5},
+      {"knot /", 5}, {"knot :", 5},
       // Another WORD, or a TOKEN of another sort.
-      {"rope 0", 0}, {"knots 0", 0}, {"kno 0", 0}, {"open 3", 0}, {"loose", 0}, {"down", 0},
+      {"rope 0", 0}, {"knots 0", 0}, {"knotz 0", 0}, {"knota 0", 0},
+      {"cast 0 5", 0}, {"bind 0 5", 0}, {"row 0", 0}, {"kno 0", 0}, {"open 3", 0},
+      {"loose", 0}, {"down", 0},
       {"5", 0}, {";", 0}, {"  ;", 2}, {"knot knot", 5}, {"knot ;", 5}, {"knot 0 open loose", 12},
       {"knot 0 loose open 3", 13}, {"knot 0 loose loose", 13}, {"knot 0 down", 7},
       {"knot 0 open 3 open 3", 14}, {"knot 0 3", 7}, {"knot 0 knot 1", 7}, {"knot 0;;", 7},
@@ -113,7 +117,8 @@ public final class TextTest {
       // A NUMBER that may not be.
       {"knot 4", 5}, {"knot 0 open 100", 12}, {"mast 4 0", 5}, {"mast 0 1000", 7}, {"wind 12 0", 5},
       {"wind 0 100", 7}, {"tease 0", 6}, {"knot 0;tease 1", 13}, {"tease 0;knot 0", 6},
-      {"knot 4294967296", 5}, {"mast 0 18446744073709551617", 7}, {"knot 99999999999999999999 ;", 5},
+      {"knot 4294967296", 5}, {"mast 0 18446744073709551617", 7},
+      {"knot 99999999999999999999 ;", 5},
       // The first of several.
       {"knot 9 $", 5}, {"knot 0 $ $", 7}, {"rope 9", 0},
     };

@@ -9,6 +9,7 @@ public final class YardTest {
     raise();
     mastOf();
     now();
+    fullYard();
     due.end();
   }
 
@@ -108,5 +109,20 @@ public final class YardTest {
     due.is("now(3)", x.now(3), 1);
     due.is("now(-1)", x.now(-1), Due.BEYOND);
     due.is("now(6)", x.now(6), Due.BEYOND);
+  }
+
+  private static void fullYard() {
+    TalkKnots x = new TalkKnots();
+    for (int k = 0; k < 10; k++) {
+      x.knot(0, 2);
+    }
+    int[] want = {100, 1, 1023, 1023, 10, 1000};
+    for (int what = 0; what < 6; what++) {
+      due.is("ten: mastOf(2, " + what + ")", x.mastOf(2, what), want[what]);
+    }
+    due.is("ten: now(4)", x.now(4), 1023);
+    due.is("ten: now(5)", x.now(5), 500);
+    due.is("ten: hours(2)", x.hours(2), 4);
+    due.is("ten: count(3)", x.count(3), 20);
   }
 }
