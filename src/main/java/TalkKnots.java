@@ -690,7 +690,7 @@ public final class TalkKnots {
       fast = true;
     }
 
-    void become(Knot other) {
+    void beLike(Knot other) {
       kind = other.kind;
       mast = other.mast;
       open = other.open;
@@ -826,7 +826,7 @@ public final class TalkKnots {
       System.arraycopy(other.winds, 0, winds, 0, PLACES);
       System.arraycopy(other.weights, 0, weights, 0, MASTS);
       for (int k = 0; k < count; k++) {
-        knots[k].become(other.knots[k]);
+        knots[k].beLike(other.knots[k]);
       }
     }
 
@@ -905,7 +905,7 @@ public final class TalkKnots {
 
     int holdingOf(Knot one) {
       countFast();
-      return holding(one, windNow());
+      return heldBy(one, windNow());
     }
 
     int allHolding(int mast) {
@@ -919,7 +919,7 @@ public final class TalkKnots {
     boolean wouldGive(Knot one) {
       int wind = windNow();
       countFast();
-      return one.fast && one.givesWay(strain(one.mast, wind), holding(one, wind));
+      return one.fast && one.givesWay(strain(one.mast, wind), heldBy(one, wind));
     }
 
     void passHours(int n) {
@@ -990,7 +990,7 @@ public final class TalkKnots {
     }
 
     /** HOLDS, by the KNOTS that countFast found. */
-    private int holding(Knot one, int wind) {
+    private int heldBy(Knot one, int wind) {
       return one.holding(wind, fastOn[one.mast] - 1);
     }
 
@@ -999,7 +999,7 @@ public final class TalkKnots {
       for (int k = 0; k < count; k++) {
         Knot one = knots[k];
         if (one.fast && isUp(one.mast)
-            && one.givesWay(strain(one.mast, wind), holding(one, wind))) {
+            && one.givesWay(strain(one.mast, wind), heldBy(one, wind))) {
           one.fast = false;
         }
       }
