@@ -58,7 +58,7 @@ public final class EdgeImageTest {
 
   // Promise 36: "All that section 1 tells .. is kept", 37: "It becomes what was kept latest"
   private static void imageKeepsAll() {
-    for (String world : new String[] {"new", "some", "full"}) {
+    for (String world : new String[] {"new", "some", "full", "odd", "told"}) {
       TalkKnots x = Worlds.make(world);
       TalkKnots twin = Worlds.make(world);
       due.is("image()", x.image(), 1);

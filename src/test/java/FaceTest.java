@@ -1,14 +1,20 @@
+import java.io.IOException;
 import java.lang.reflect.Constructor;
 import java.lang.reflect.Field;
 import java.lang.reflect.Method;
 import java.lang.reflect.Modifier;
+import java.nio.file.Files;
+import java.nio.file.Path;
 import java.util.ArrayList;
 import java.util.Arrays;
 import java.util.List;
 import java.util.Set;
 import java.util.TreeSet;
 
-/** The public face: every signature of the document, and nothing beside it. */
+/**
+ * The public face: every signature of the document, and nothing beside it. The first argument is
+ * the project's folder.
+ */
 public final class FaceTest {
   private static final Due due = new Due();
 
@@ -25,7 +31,8 @@ public final class FaceTest {
     "int count(int)", "int status(int)",
   };
 
-  public static void main(String[] args) {
+  public static void main(String[] args) throws IOException {
+    documented(Path.of(args.length > 0 ? args[0] : "."));
     Class<?> face = TalkKnots.class;
     int wanted = Modifier.PUBLIC | Modifier.FINAL;
     due.is("public and final", face.getModifiers(), wanted);
@@ -42,6 +49,28 @@ public final class FaceTest {
       innerNames(inner);
     }
     due.end();
+  }
+
+  /** The signatures of the document's 'public face', in its order, without the constructor. */
+  static List<String> signatures(Path root) throws IOException {
+    List<String> all = new ArrayList<>();
+    boolean inside = false;
+    for (String line : Files.readAllLines(root.resolve("../shared/DOC.md"))) {
+      inside = inside ? !line.equals("}") : line.equals("public final class TalkKnots {");
+      if (inside && line.matches("    public (int|long) \\w+\\(.*\\);")) {
+        all.add(line.substring("    public ".length(), line.length() - 1));
+      }
+    }
+    return all;
+  }
+
+  /** FACE is the document's own. */
+  private static void documented(Path root) throws IOException {
+    List<String> found = new ArrayList<>();
+    for (String signature : signatures(root)) {
+      found.add(signature.replaceAll("\\b(int|long) \\w+(?=[,)])", "$1"));
+    }
+    due.holds("the document's face is " + found, found.equals(Arrays.asList(FACE)));
   }
 
   private static void constructors(Class<?> face) {

@@ -10,7 +10,7 @@ public final class RefusalTest {
   private static final Due due = new Due();
 
   /** The world, the call with its arguments, the finding. */
-  private static final String[] ROWS = {
+  static final String[] ROWS = {
     // Promise 2
     "some wind -1 5 BEYOND", "some wind 12 5 BEYOND", "some wind 3 -1 BEYOND",
     "some wind 3 100 BEYOND", "some wind MIN 0 BEYOND", "some wind MAX 0 BEYOND",
