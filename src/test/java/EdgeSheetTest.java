@@ -371,6 +371,13 @@ public final class EdgeSheetTest {
     due.is("a loose one stays: all KINDS", x.read(0, 0), 6);
     write(x, 0, 7, 7, 6);
     due.is("and never settles", x.read(0, 0), 0);
+    x = calmly("mast 0 0; knot 0 open 7 loose; knot 0");
+    x.sheet(0, 8, 3);
+    write(x, 0, 7, 7, 7);
+    due.is("a loose one of a MAST without WEIGHT: all KINDS", x.read(0, 0), 6);
+    due.is("a FAST one of it: the VOW", x.read(0, 1), 1);
+    x.set(1, 4, 5);
+    due.is("as old as a VOW may be: none", x.read(0, 1), 0);
   }
 
   /** What gives way stays as it is, so the reader tells a KNOT that does from one that doesn't. */

@@ -120,6 +120,10 @@ public final class HourTest {
     due.is("then(1, 1)", x.then(1, 1), 3);
     due.is("then(2, 0)", x.then(2, 0), 8);
     due.is("then(200, 1)", x.then(200, 1), 2);
+    TalkKnots fallen = Due.told("mast 1 999 down; knot 1; splice 2 open 95; fool 1 loose");
+    due.is("knots of a mast that fell are fast", fallen.then(0, 1), 3);
+    due.is("and stay so", fallen.then(200, 1), 3);
+    due.is("but the mast isn't up", fallen.then(200, 0), 4);
     due.is("then(201, 0)", x.then(201, 0), Due.BEYOND);
     due.is("then(-1, 0)", x.then(-1, 0), Due.BEYOND);
     due.is("then(0, 2)", x.then(0, 2), Due.BEYOND);

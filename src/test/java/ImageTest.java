@@ -99,6 +99,11 @@ public final class ImageTest {
     for (int what = 0; what < 4; what++) {
       due.is("count(" + what + ")", x.count(what), want[what]);
     }
+    TalkKnots fallen = Due.told("mast 2 50 down; knot 2; vow 2 loose");
+    fallen.set(0, 4, 30);
+    fallen.set(1, 4, 4);
+    due.is("weights, that of a mast that fell, too", fallen.count(2), 350);
+    due.is("ages, those of its knots, too", fallen.count(3), 34);
     due.is("count(4)", x.count(4), Due.BEYOND);
     due.is("count(-1)", x.count(-1), Due.BEYOND);
   }

@@ -10,6 +10,7 @@ public final class KnotTest {
     teased();
     gives();
     set();
+    ofOneOfAFallenMast();
     turn();
     as();
     tease();
@@ -162,6 +163,19 @@ public final class KnotTest {
     due.is("set(0, 4, 0)", x.set(0, 4, 0), 9999);
   }
 
+  private static void ofOneOfAFallenMast() {
+    TalkKnots x = Due.told("wind 0 20; mast 2 999 down; hitch 2 open 80; hawser 2 open 70;"
+        + " vow 2 open 5 loose");
+    int[] first = {2, 2, 80, 1, 0, 140, 104, 110, 1};
+    int[] second = {4, 2, 70, 1, 0, 220, 100, 130, 1};
+    int[] third = {5, 2, 5, 0, 0, 0, 100, 110, 0};
+    for (int what = 0; what < 9; what++) {
+      due.is("of one of a mast that fell: of(0, " + what + ")", x.of(0, what), first[what]);
+      due.is("of one of a mast that fell: of(1, " + what + ")", x.of(1, what), second[what]);
+      due.is("of a loose one of it: of(2, " + what + ")", x.of(2, what), third[what]);
+    }
+  }
+
   private static void turn() {
     TalkKnots x = Due.told("vow 1 open 7 loose");
     x.set(0, 4, 12);
@@ -195,6 +209,8 @@ public final class KnotTest {
             isOf[kind][higher] ? 10 + kind : Due.KIND);
       }
     }
+    x.cast(4);
+    due.is("as of one that is loose", x.as(4, 1), 14);
     due.is("as(0, 6)", x.as(0, 6), Due.BEYOND);
     due.is("as(0, -1)", x.as(0, -1), Due.BEYOND);
     due.is("as(6, 0)", x.as(6, 0), Due.BEYOND);

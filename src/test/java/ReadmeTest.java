@@ -16,6 +16,8 @@ import java.util.stream.Stream;
  */
 public final class ReadmeTest {
   private static final Due due = new Due();
+  private static final Pattern ROW =
+      Pattern.compile("\\| `(\\w+)\\([^)]*\\)` \\|.*\\| ?([A-Z, ]*?) ?\\|");
   private static final Pattern CALL = Pattern.compile("x\\.(\\w+)\\(([^)]*)\\); +// (-?\\d+): .+");
 
   public static void main(String[] args) throws IOException {
@@ -23,7 +25,7 @@ public final class ReadmeTest {
     List<String> lines = Files.readAllLines(root.resolve("README.md"));
     calls(lines);
     findings(lines);
-    face(lines, root);
+    face(lines);
     findingsOfCalls(lines);
     tests(lines, root);
     due.holds("it names the command", lines.contains("    .ci/run"));
@@ -66,8 +68,8 @@ public final class ReadmeTest {
     }
   }
 
-  /** The first column of its list of calls, against the signatures of DOC.md in their order. */
-  private static void face(List<String> lines, Path root) throws IOException {
+  /** The first column of its list of calls: the document's face, in its order. */
+  private static void face(List<String> lines) {
     List<String> listed = new ArrayList<>();
     for (String line : lines) {
       Matcher m = Pattern.compile("\\| `(\\w+\\([^)]*\\))` \\| .*").matcher(line);
@@ -76,7 +78,7 @@ public final class ReadmeTest {
       }
     }
     List<String> wanted = new ArrayList<>();
-    for (String signature : FaceTest.signatures(root)) {
+    for (String signature : FaceTest.FACE) {
       wanted.add(signature.replaceAll("\\b(int|long) ", ""));
     }
     due.holds("its calls are " + wanted + ", not " + listed, listed.equals(wanted));
@@ -85,7 +87,7 @@ public final class ReadmeTest {
   /** The last column of its list of calls: the findings that RefusalTest has of each call. */
   private static void findingsOfCalls(List<String> lines) {
     for (String line : lines) {
-      Matcher m = Pattern.compile("\\| `(\\w+)\\([^)]*\\)` \\|.*\\| ?([A-Z, ]*?) ?\\|").matcher(line);
+      Matcher m = ROW.matcher(line);
       if (m.matches()) {
         TreeSet<String> told = new TreeSet<>();
         for (String row : RefusalTest.ROWS) {

@@ -10,6 +10,7 @@ public final class YardTest {
     mastOf();
     now();
     fullYard();
+    fallenMast();
     due.end();
   }
 
@@ -124,5 +125,23 @@ public final class YardTest {
     due.is("ten: now(5)", x.now(5), 500);
     due.is("ten: hours(2)", x.hours(2), 4);
     due.is("ten: count(3)", x.count(3), 20);
+  }
+
+  /** A MAST that fell has its WEIGHT and its KNOTS, with what they HOLD and their STRAIN, as ever. */
+  private static void fallenMast() {
+    TalkKnots x = Due.told("wind 0 10; mast 1 200 down; splice 1 open 60; knot 1 open 7 loose;"
+        + " hawser 1 open 20");
+    int[] want = {200, 0, 7, 5, 115, 230};
+    for (int what = 0; what < 6; what++) {
+      due.is("fallen: mastOf(1, " + what + ")", x.mastOf(1, what), want[what]);
+    }
+    due.is("fallen: now(3)", x.now(3), 13);
+    due.is("fallen: now(4)", x.now(4), 5);
+    due.is("fallen: now(5)", x.now(5), 87);
+    due.is("raise(1)", x.raise(1), 1);
+    want[1] = 1;
+    for (int what = 0; what < 6; what++) {
+      due.is("raised: mastOf(1, " + what + ")", x.mastOf(1, what), want[what]);
+    }
   }
 }
